@@ -5,6 +5,8 @@ public final class CrustMarket {
     private static final int NO_GOING = NONE - 99999;
     private static final int NO_LOOK = NONE - 999999;
     private static final int MILLION = 1000000;
+    // Above every sum of SIZES and every number of stalls.
+    private static final int FAR_ABOVE = 1000000;
 
     private static final int MOST_KINDS = 6;
     private static final int MOST_REMAINS = 14;
@@ -1612,7 +1614,7 @@ public final class CrustMarket {
             if (needed == NONE) {
                 return 0;
             }
-            bestSum = Integer.MAX_VALUE;
+            bestSum = FAR_ABOVE;
             bestSet = 0;
             search(count - 1, needed, 0, 0);
             return bestSet;
@@ -1643,7 +1645,7 @@ public final class CrustMarket {
 
         private int bestAlone(int size) {
             int best = NONE;
-            int least = Integer.MAX_VALUE;
+            int least = FAR_ABOVE;
             for (int i = 0; i < count && i < MOST_REMAINS; i++) {
                 if (sizes[i] >= size && sizes[i] < least) {
                     least = sizes[i];
@@ -1939,7 +1941,7 @@ public final class CrustMarket {
             stalls[0] = 0;
             fills[0] = room;
             for (int set = 1; set < sets; set++) {
-                stalls[set] = Integer.MAX_VALUE;
+                stalls[set] = FAR_ABOVE;
                 for (int place = 0; place < number; place++) {
                     if (isIn(set, place)) {
                         layLast(set, set ^ 1 << place, remains.at(place, SIZE), room);
