@@ -70,6 +70,12 @@ public final class ListsTest {
         z.piece(7, 2);
         cut(z, 99, 299, 3, 1);
         cut(z, 29, 8, 0, 4);
+        CrustMarket six = new CrustMarket();
+        for (int i = 0; i < 5; i++) {
+            six.piece(30 - i, 1);
+        }
+        six.piece(1, 99);
+        cut(six, 99, 9801, 0, 0, 0, 0, 0, 99);
     }
 
     private static void tests() {

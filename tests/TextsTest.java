@@ -11,6 +11,7 @@ public final class TextsTest {
         depthOfLaw();
         faultsOfFeastsAndWants();
         faultsOfDishes();
+        theLongestTexts();
         lawIsWorkedOut();
         Check.finish("TextsTest");
     }
@@ -227,6 +228,18 @@ public final class TextsTest {
         Check.faulty(x, 4, "dish 9 5;", 1, 8);
         Check.faulty(x, 4, "dish;", 1, 4);
         Check.due("12 recipes stay", x.look(13), 1);
+    }
+
+    private static void theLongestTexts() {
+        CrustMarket x = market();
+        Check.told(x, 1, "left 1" + times(196, "+1") + "; ", 1);
+        Check.due("12 two hundred less three, held to whole less 1", x.left(0, 1, false), 29);
+        Check.told(x, 1, "left 0" + times(190, "+1") + "-180;", 1);
+        Check.due("12 every term counts", x.left(0, 1, false), 10);
+        Check.faulty(x, 1, "left 1" + times(197, "+1"), 1, 400);
+        Check.faulty(x, 1, "left 1" + times(196, "+1") + "+;", 1, 399);
+        Check.faulty(x, 2, times(400, ";"), 1, 0);
+        Check.told(x, 2, "on 1 feast 1 for 1;" + times(381, " "), 1);
     }
 
     private static void law(String law, int due) {

@@ -219,7 +219,7 @@ public final class CrustMarket {
             case 0:
                 return tellKinds();
             case 1:
-                return tellLaw();
+                return lawReader.tell(market.law);
             case 2:
                 return tellFeasts();
             case 3:
@@ -506,15 +506,6 @@ public final class CrustMarket {
         return market.kinds.count;
     }
 
-    // THE LAW and RECIPES leave what can be undone, since no step that is undone bears them.
-    private int tellLaw() {
-        if (!lawReader.read()) {
-            return NONE;
-        }
-        market.law.copyFrom(lawReader.law);
-        return market.law.lines;
-    }
-
     private int tellFeasts() {
         if (!lineReader.readFeasts(market.kinds.count)) {
             return NONE;
@@ -533,6 +524,7 @@ public final class CrustMarket {
         return market.wants.count;
     }
 
+    // RECIPES, as THE LAW, leave what can be undone: no step that goes back bears them.
     private int tellRecipes() {
         if (!lineReader.readDishes(market.kinds.count)) {
             return NONE;
@@ -1088,14 +1080,16 @@ public final class CrustMarket {
             this.tokens = tokens;
         }
 
-        boolean read() {
+        /** Reads the tokens; without a FAULT the law that is told becomes theirs. */
+        int tell(Law told) {
             law.empty();
             for (int line = 0; line <= Law.MOST && !tokens.atEnd(); line++) {
                 if (!readLine()) {
-                    return false;
+                    return NONE;
                 }
             }
-            return true;
+            told.copyFrom(law);
+            return told.lines;
         }
 
         private boolean readLine() {
@@ -1150,24 +1144,19 @@ public final class CrustMarket {
 
         private boolean readCondition(int open) {
             int type = tokens.type();
-            if (type != WORD_NOT && type != '(') {
-                return readComparison();
-            }
-            if (open >= MOST_OPEN) {
+            if ((type == WORD_NOT || type == '(') && open >= MOST_OPEN) {
                 return tokens.fails(TOO_MANY);
             }
-            tokens.take();
             if (type == '(') {
+                tokens.take();
                 return readEither(open + 1) && tokens.takes(')');
             }
-            if (!readCondition(open + 1)) {
-                return false;
+            if (type == WORD_NOT) {
+                tokens.take();
+                boolean read = readCondition(open + 1);
+                law.addStep(WORD_NOT, 0);
+                return read;
             }
-            law.addStep(WORD_NOT, 0);
-            return true;
-        }
-
-        private boolean readComparison() {
             if (!readSum()) {
                 return false;
             }
@@ -1176,11 +1165,9 @@ public final class CrustMarket {
                 return tokens.fails(CANNOT_STAND);
             }
             tokens.take();
-            if (!readSum()) {
-                return false;
-            }
+            boolean read = readSum();
             law.addStep(sign, 0);
-            return true;
+            return read;
         }
 
         // E: a "+" or "-" waits until the product behind it is whole.
