@@ -55,6 +55,11 @@ public final class CrustMarket {
     private static final int CANNOT_BE = 2;
     private static final int TOO_MANY = 3;
 
+    private static final int TEXT_KINDS = 0;
+    private static final int TEXT_LAW = 1;
+    private static final int TEXT_FEASTS = 2;
+    private static final int TEXT_WANTS = 3;
+    private static final int TEXT_RECIPES = 4;
     private static final int TAPE_BYTES = 400;
 
     // Tokens: a sign is its own byte, so all others begin above the bytes.
@@ -95,6 +100,7 @@ public final class CrustMarket {
 
     private final Market market;
     private final Market imageMarket;
+    // A spare one: for days in thought, and for texts until they are read to the end.
     private final Market thought;
     private final Lists lists;
     private final Lists imageLists;
@@ -215,20 +221,14 @@ public final class CrustMarket {
 
     public int text(int k) {
         tokens.split();
-        switch (k) {
-            case 0:
-                return tellKinds();
-            case 1:
-                return lawReader.tell(market.law);
-            case 2:
-                return tellFeasts();
-            case 3:
-                return tellWants();
-            case 4:
-                return tellRecipes();
-            default:
-                return NONE;
+        if (k == TEXT_LAW) {
+            return lawReader.tell(market.law);
         }
+        // Read into the spare market, so that the text stays as it was if there is a FAULT.
+        if (!within(k, TEXT_KINDS, TEXT_RECIPES) || !lineReader.read(k, thought.linesOf(k), market.kinds.count)) {
+            return NONE;
+        }
+        return tellLines(k, thought.linesOf(k));
     }
 
     public int fault(int what) {
@@ -493,44 +493,20 @@ public final class CrustMarket {
         }
     }
 
-    private int tellKinds() {
-        if (!lineReader.readKinds()) {
-            return NONE;
+    private int tellLines(int k, Rows lines) {
+        Rows told = market.linesOf(k);
+        told.copyFrom(lines);
+        if (k == TEXT_KINDS) {
+            market.remains.empty();
+            market.feasts.empty();
+            market.wants.empty();
+            market.dishes.empty();
         }
-        market.kinds.copyFrom(lineReader.kinds);
-        market.remains.empty();
-        market.feasts.empty();
-        market.wants.empty();
-        market.dishes.empty();
-        past.forget();
-        return market.kinds.count;
-    }
-
-    private int tellFeasts() {
-        if (!lineReader.readFeasts(market.kinds.count)) {
-            return NONE;
+        // RECIPES, as THE LAW, leave what can be undone: no step that goes back bears them.
+        if (k != TEXT_RECIPES) {
+            past.forget();
         }
-        market.feasts.copyFrom(lineReader.feasts);
-        past.forget();
-        return market.feasts.count;
-    }
-
-    private int tellWants() {
-        if (!lineReader.readWants(market.kinds.count)) {
-            return NONE;
-        }
-        market.wants.copyFrom(lineReader.wants);
-        past.forget();
-        return market.wants.count;
-    }
-
-    // RECIPES, as THE LAW, leave what can be undone: no step that goes back bears them.
-    private int tellRecipes() {
-        if (!lineReader.readDishes(market.kinds.count)) {
-            return NONE;
-        }
-        market.dishes.copyFrom(lineReader.dishes);
-        return market.dishes.count;
+        return told.count;
     }
 
     private static boolean within(int v, int least, int greatest) {
@@ -782,6 +758,7 @@ public final class CrustMarket {
 
     /** The TAPE, its tokens once it is split, and the FAULT that their readers find. */
     private static final class Tokens {
+        private static final int MOST_DIGITS = 4;
         private final int[] tape = new int[TAPE_BYTES];
         private final int[] types = new int[TAPE_BYTES + 1];
         private final int[] values = new int[TAPE_BYTES + 1];
@@ -826,8 +803,8 @@ public final class CrustMarket {
             }
             if (isDigit(first)) {
                 int stop = behindDigits(start);
-                boolean short4 = stop - start <= 4;
-                addToken(short4 ? A_NUMBER : NO_TOKEN, short4 ? numberBetween(start, stop) : 0, start);
+                int type = stop - start <= MOST_DIGITS ? A_NUMBER : NO_TOKEN;
+                addToken(type, numberBetween(start, stop), start);
                 return stop;
             }
             addToken(first, 0, start);
@@ -943,56 +920,35 @@ public final class CrustMarket {
     private static final class LineReader {
         private static final int MOST_PARTS = 4;
         private final Tokens tokens;
-        private final Rows kinds = new Rows(MOST_KINDS, 2);
-        private final Rows feasts = new Rows(MOST_LINES, 3);
-        private final Rows wants = new Rows(MOST_LINES, 5);
-        private final Rows dishes = new Rows(MOST_LINES, DISH_NEEDS + MOST_KINDS);
 
         LineReader(Tokens tokens) {
             this.tokens = tokens;
         }
 
-        boolean readKinds() {
-            kinds.empty();
-            for (int line = 0; line <= MOST_KINDS && !tokens.atEnd(); line++) {
-                if (!readKind()) {
-                    return false;
-                }
-            }
-            return true;
-        }
-
-        boolean readFeasts(int kindsTold) {
-            feasts.empty();
+        boolean read(int k, Rows lines, int kindsTold) {
+            lines.empty();
             for (int line = 0; line <= MOST_LINES && !tokens.atEnd(); line++) {
-                if (!readFeast(kindsTold)) {
+                if (!readLine(k, lines, kindsTold)) {
                     return false;
                 }
             }
             return true;
         }
 
-        boolean readWants(int kindsTold) {
-            wants.empty();
-            for (int line = 0; line <= MOST_LINES && !tokens.atEnd(); line++) {
-                if (!readWant(kindsTold)) {
-                    return false;
-                }
+        private boolean readLine(int k, Rows lines, int kindsTold) {
+            switch (k) {
+                case TEXT_KINDS:
+                    return readKind(lines);
+                case TEXT_FEASTS:
+                    return readFeast(lines, kindsTold);
+                case TEXT_WANTS:
+                    return readWant(lines, kindsTold);
+                default:
+                    return readDish(lines, kindsTold);
             }
-            return true;
         }
 
-        boolean readDishes(int kindsTold) {
-            dishes.empty();
-            for (int line = 0; line <= MOST_LINES && !tokens.atEnd(); line++) {
-                if (!readDish(kindsTold)) {
-                    return false;
-                }
-            }
-            return true;
-        }
-
-        private boolean readKind() {
+        private boolean readKind(Rows kinds) {
             return begins(WORD_KIND, kinds)
                 && takesNumber(kinds, WHOLE, 1, MOST_SIZE)
                 && tokens.takes(WORD_KEEPS)
@@ -1000,7 +956,7 @@ public final class CrustMarket {
                 && tokens.takes(';');
         }
 
-        private boolean readFeast(int kindsTold) {
+        private boolean readFeast(Rows feasts, int kindsTold) {
             return begins(WORD_ON, feasts)
                 && takesNumber(feasts, FEAST_DAY, 0, LAST_TOLD_DAY)
                 && tokens.takes(WORD_FEAST)
@@ -1010,7 +966,7 @@ public final class CrustMarket {
                 && tokens.takes(';');
         }
 
-        private boolean readWant(int kindsTold) {
+        private boolean readWant(Rows wants, int kindsTold) {
             return begins(WORD_WANT, wants)
                 && takesNumber(wants, KIND, 0, kindsTold - 1)
                 && takesNumber(wants, SIZE, 1, MOST_SIZE)
@@ -1021,14 +977,14 @@ public final class CrustMarket {
                 && tokens.takes(';');
         }
 
-        private boolean readDish(int kindsTold) {
+        private boolean readDish(Rows dishes, int kindsTold) {
             return begins(WORD_DISH, dishes)
                 && takesNumber(dishes, DISH_WORTH, 1, 99)
-                && readParts(kindsTold)
+                && readParts(dishes, kindsTold)
                 && tokens.takes(';');
         }
 
-        private boolean readParts(int kindsTold) {
+        private boolean readParts(Rows dishes, int kindsTold) {
             int dish = dishes.count - 1;
             for (int part = 0; part <= MOST_PARTS && tokens.type() == A_NUMBER; part++) {
                 int kind = tokens.value();
@@ -1046,25 +1002,25 @@ public final class CrustMarket {
             return true;
         }
 
-        private boolean begins(int word, Rows rows) {
+        private boolean begins(int word, Rows lines) {
             if (tokens.type() != word) {
                 return tokens.fails(CANNOT_STAND);
             }
-            if (rows.addEmpty() == NONE) {
+            if (lines.addEmpty() == NONE) {
                 return tokens.fails(TOO_MANY);
             }
             tokens.take();
             return true;
         }
 
-        private boolean takesNumber(Rows rows, int column, int least, int greatest) {
+        private boolean takesNumber(Rows lines, int column, int least, int greatest) {
             if (tokens.type() != A_NUMBER) {
                 return tokens.fails(CANNOT_STAND);
             }
             if (!within(tokens.value(), least, greatest)) {
                 return tokens.fails(CANNOT_BE);
             }
-            rows.put(rows.count - 1, column, tokens.value());
+            lines.put(lines.count - 1, column, tokens.value());
             tokens.take();
             return true;
         }
@@ -1257,6 +1213,20 @@ public final class CrustMarket {
             inspect = other.inspect;
             dogs = other.dogs;
             eaten = other.eaten;
+        }
+
+        /** The lines of a text that is a list. */
+        Rows linesOf(int k) {
+            switch (k) {
+                case TEXT_KINDS:
+                    return kinds;
+                case TEXT_FEASTS:
+                    return feasts;
+                case TEXT_WANTS:
+                    return wants;
+                default:
+                    return dishes;
+            }
         }
 
         boolean feastCanBe(int kind, int guests) {
