@@ -15,22 +15,8 @@ public final class DaysTest {
         Check.finish("DaysTest");
     }
 
-    private static CrustMarket market(String... texts) {
-        CrustMarket x = new CrustMarket();
-        for (int k = 0; k < texts.length; k++) {
-            Check.tell(x, k, texts[k]);
-        }
-        return x;
-    }
-
-    private static void line(String name, CrustMarket x, int line, int... due) {
-        for (int what = 0; what < due.length; what++) {
-            Check.due(name + " book " + line + " what " + what, x.book(line, what), due[what]);
-        }
-    }
-
     private static void daysThatCannotBe() {
-        CrustMarket x = market("kind 9 keeps 9;");
+        CrustMarket x = Check.market("kind 9 keeps 9;");
         Check.due("9 none", x.days(0), -1);
         Check.due("9 below 0", x.days(-1), -1);
         Check.due("9 too many", x.days(61), -1);
@@ -48,24 +34,24 @@ public final class DaysTest {
     }
 
     private static void feastsAheadOfWants() {
-        CrustMarket x = market("kind 30 keeps 9;kind 20 keeps 9;", "",
+        CrustMarket x = Check.market("kind 30 keeps 9;kind 20 keeps 9;", "",
             "on 1 feast 1 for 1;on 0 feast 0 for 1;on 0 feast 0 for 2;on 0 feast 1 for 9;",
             "want 0 40 by 0 pays 7;want 1 5 by 3 pays 9;want 0 1 by 9 pays 1;");
         Check.due("9 met", x.days(2), 2);
         Check.due("9 coin", x.look(3), 116);
         Check.due("9 eaten", x.look(5), 4);
-        line("9 (a)", x, 0, 0, 0, 0, 25);
-        line("9 (a)", x, 1, 0, 0, 0, 20);
-        line("9 (a) nothing left", x, 2, 0, 0, 1, 0);
-        line("9 (b) both go", x, 3, 0, 5, 0, 2);
-        line("9 (a)", x, 4, 1, 0, 1, 15);
-        line("9 (b)", x, 5, 1, 5, 1, 1);
+        Check.line("9 (a)", x, 0, 0, 0, 0, 25);
+        Check.line("9 (a)", x, 1, 0, 0, 0, 20);
+        Check.line("9 (a) nothing left", x, 2, 0, 0, 1, 0);
+        Check.line("9 (b) both go", x, 3, 0, 5, 0, 2);
+        Check.line("9 (a)", x, 4, 1, 0, 1, 15);
+        Check.line("9 (b)", x, 5, 1, 5, 1, 1);
         Check.due("9 lines", x.look(8), 6);
         Check.due("9 remains", x.look(2), 0);
     }
 
     private static void wantsInTime() {
-        CrustMarket x = market("kind 30 keeps 30;", "", "on 3 feast 0 for 1;on 3 feast 0 for 1;on 3 feast 0 for 2;",
+        CrustMarket x = Check.market("kind 30 keeps 30;", "", "on 3 feast 0 for 1;on 3 feast 0 for 1;on 3 feast 0 for 2;",
             "want 0 5 by 2 pays 1;want 0 19 by 3 pays 2;want 0 25 by 4 pays 4;");
         Check.due("9 none yet", x.days(3), 0);
         Check.due("9 two by this day", x.days(1), 2);
@@ -76,7 +62,7 @@ public final class DaysTest {
     }
 
     private static void remainsSpoil() {
-        CrustMarket x = market("kind 30 keeps 1;kind 40 keeps 2;", "");
+        CrustMarket x = Check.market("kind 30 keeps 1;kind 40 keeps 2;", "");
         x.feast(0, 1);
         x.feast(1, 1);
         x.feast(0, 2);
@@ -84,15 +70,15 @@ public final class DaysTest {
         Check.due("9 all keep a day", x.look(2), 3);
         x.days(1);
         Check.due("9 two are too old", x.look(2), 1);
-        line("9 (c)", x, 3, 1, 6, 0, 25);
-        line("9 (c)", x, 4, 1, 6, 0, 20);
+        Check.line("9 (c)", x, 3, 1, 6, 0, 25);
+        Check.line("9 (c)", x, 4, 1, 6, 0, 20);
         x.days(1);
-        line("9 (c)", x, 5, 2, 6, 1, 35);
+        Check.line("9 (c)", x, 5, 2, 6, 1, 35);
         Check.due("9 no draw", x.look(9), 0);
     }
 
     private static void spoilByDraws() {
-        CrustMarket x = market("kind 30 keeps 1;kind 40 keeps 9;", "spoil 564 when size>20;spoil 0;");
+        CrustMarket x = Check.market("kind 30 keeps 1;kind 40 keeps 9;", "spoil 564 when size>20;spoil 0;");
         x.feast(1, 1);
         x.feast(1, 4);
         x.feast(1, 3);
@@ -104,11 +90,11 @@ public final class DaysTest {
         int stays = (second >>> 8) % 1000 < 564 ? 1 : 2;
         Check.due("9 563 is below 564", x.look(2), stays);
         Check.due("9 spoil 0 keeps", x.remain(0, 1), 20);
-        CrustMarket y = market("kind 40 keeps 9;", "spoil 563;");
+        CrustMarket y = Check.market("kind 40 keeps 9;", "spoil 563;");
         y.feast(0, 1);
         y.days(1);
         Check.due("9 563 is not below 563", y.look(2), 1);
-        CrustMarket z = market("kind 40 keeps 1;", "spoil 1000;");
+        CrustMarket z = Check.market("kind 40 keeps 1;", "spoil 1000;");
         z.feast(0, 1);
         Check.tell(z, 1, "");
         z.days(1);
@@ -119,7 +105,7 @@ public final class DaysTest {
     }
 
     private static void inspectors() {
-        CrustMarket x = market("kind 30 keeps 9;", "");
+        CrustMarket x = Check.market("kind 30 keeps 9;", "");
         x.feast(0, 1);
         x.set(0, 100);
         x.forge(0, 4);
@@ -134,7 +120,7 @@ public final class DaysTest {
         Check.due("9 the first forged goes", x.remain(1, 1), 5);
         Check.due("9 a fine", x.look(4), 1);
         Check.due("9 fifty less", x.look(3), 10);
-        line("9 (d)", x, 3, 1, 7, 0, 4);
+        Check.line("9 (d)", x, 3, 1, 7, 0, 4);
         x.state(0);
         x.days(1);
         Check.due("9 below 0", x.look(3), -40);
@@ -148,7 +134,7 @@ public final class DaysTest {
         x.state(0);
         x.days(1);
         Check.due("9 one of a thousand draws too", x.look(9), 1013904223);
-        CrustMarket y = market("kind 30 keeps 9;", "");
+        CrustMarket y = Check.market("kind 30 keeps 9;", "");
         y.forge(0, 4);
         y.set(1, 1000);
         y.days(1);
@@ -156,7 +142,7 @@ public final class DaysTest {
     }
 
     private static void dogs() {
-        CrustMarket x = market("kind 30 keeps 9;", "");
+        CrustMarket x = Check.market("kind 30 keeps 9;", "");
         x.set(2, 1000);
         x.days(1);
         Check.due("9 no remains, no draw", x.look(9), 0);
@@ -169,7 +155,7 @@ public final class DaysTest {
         int eaten = (second >>> 8) % 5;
         Check.due("9 two draws", x.look(9), second);
         Check.due("9 one is eaten", x.look(2), 4);
-        line("9 (e)", x, 5, 1, 8, 0, 25 - 5 * eaten);
+        Check.line("9 (e)", x, 5, 1, 8, 0, 25 - 5 * eaten);
         x.set(2, 563);
         x.state(0);
         x.days(1);
@@ -183,7 +169,7 @@ public final class DaysTest {
         x.state(0);
         x.days(1);
         Check.due("9 one of a thousand draws too", x.look(9), first);
-        CrustMarket y = market("kind 30 keeps 9;", "");
+        CrustMarket y = Check.market("kind 30 keeps 9;", "");
         y.feast(0, 1);
         y.set(2, 1000);
         y.days(1);
@@ -191,7 +177,7 @@ public final class DaysTest {
     }
 
     private static void wantsAreTold() {
-        CrustMarket x = market("kind 30 keeps 9;kind 30 keeps 9;", "", "", "want 1 99 by 999 pays 0;want 0 1 by 0 pays 999;");
+        CrustMarket x = Check.market("kind 30 keeps 9;kind 30 keeps 9;", "", "", "want 1 99 by 999 pays 0;want 0 1 by 0 pays 999;");
         int[][] due = {{1, 99, 999, 0, 0}, {0, 1, 0, 999, 0}};
         for (int i = 0; i < 2; i++) {
             for (int what = 0; what < 5; what++) {
@@ -210,27 +196,27 @@ public final class DaysTest {
     }
 
     private static void theBookIsFull() {
-        CrustMarket x = market("kind 30 keeps 9;", "");
+        CrustMarket x = Check.market("kind 30 keeps 9;", "");
         for (int i = 0; i < 149; i++) {
             x.feast(0, 20);
         }
         x.forge(0, 7);
         Check.due("18 lines", x.look(8), 150);
-        line("18 the last", x, 149, 0, 1, 0, 7);
+        Check.line("18 the last", x, 149, 0, 1, 0, 7);
         x.sell(0);
         Check.due("18 no more", x.look(8), 150);
         Check.due("18 none such", x.book(150, 0), -1);
         Check.due("18 below 0", x.book(-1, 0), -1);
         Check.due("18 another what", x.book(0, 4), -1);
         Check.due("18 what below 0", x.book(0, -1), -1);
-        line("18 stays", x, 149, 0, 1, 0, 7);
+        Check.line("18 stays", x, 149, 0, 1, 0, 7);
         x.undo();
         x.undo();
         Check.due("18 undone", x.look(8), 149);
     }
 
     private static void goesInThought() {
-        CrustMarket x = market("kind 30 keeps 2;", "spoil 1000;", "on 0 feast 0 for 1;on 2 feast 0 for 3;",
+        CrustMarket x = Check.market("kind 30 keeps 2;", "spoil 1000;", "on 0 feast 0 for 1;on 2 feast 0 for 3;",
             "want 0 25 by 1 pays 40;want 0 15 by 60 pays 7;");
         x.set(1, 1000);
         x.set(2, 1000);
@@ -253,7 +239,7 @@ public final class DaysTest {
     }
 
     private static void goesMisses() {
-        CrustMarket x = market("kind 30 keeps 9;", "", "on 3 feast 0 for 1;",
+        CrustMarket x = Check.market("kind 30 keeps 9;", "", "on 3 feast 0 for 1;",
             "want 0 20 by 5 pays 1;want 0 20 by 4 pays 1;want 0 99 by 2 pays 1;want 0 98 by 2 pays 1;want 0 97 by 0 pays 1;");
         Check.due("19 by day", x.goes(1, 3), 4);
         x.days(1);

@@ -12,24 +12,13 @@ public final class ThoughtsTest {
         Check.finish("ThoughtsTest");
     }
 
-    /** A market of two kinds with forged REMAINS of these sizes: kind 0, those below 0 kind 1. */
-    private static CrustMarket with(int... sizes) {
-        CrustMarket x = new CrustMarket();
-        Check.tell(x, 0, "kind 99 keeps 30;kind 99 keeps 30;");
-        x.set(0, 9999);
-        for (int size : sizes) {
-            x.forge(size < 0 ? 1 : 0, Math.abs(size));
-        }
-        return x;
-    }
-
     private static void joined(CrustMarket x, int kind, int size, int number, int set) {
         Check.due("20 joins " + kind + " of " + size, x.joins(kind, size, 0), number);
         Check.due("20 set " + kind + " of " + size, x.joins(kind, size, 1), set);
     }
 
     private static void joins() {
-        CrustMarket x = with(30, -50, 20, 20, 10);
+        CrustMarket x = Check.forged(30, -50, 20, 20, 10);
         joined(x, 0, 30, 1, 1);
         joined(x, 0, 20, 1, 4);
         joined(x, 0, 21, 1, 1);
@@ -57,17 +46,17 @@ public final class ThoughtsTest {
     }
 
     private static void joinsOfMany() {
-        CrustMarket x = with(8, 8, 8, 8, 8, 8, 8, 8, 8, 8, 8, 8, 8, 8);
+        CrustMarket x = Check.forged(8, 8, 8, 8, 8, 8, 8, 8, 8, 8, 8, 8, 8, 8);
         joined(x, 0, 99, 14, 16383);
         joined(x, 0, 50, 7, 127);
         joined(x, 0, 51, 8, 255);
-        CrustMarket y = with(1, 2, 3, 4, 5, 6, 7, 8, 9, 10, 11, 12, 13, 14);
+        CrustMarket y = Check.forged(1, 2, 3, 4, 5, 6, 7, 8, 9, 10, 11, 12, 13, 14);
         // 67 at least: no five reach it; of six with 67 the least set lacks 10: sizes 14, 13, 12, 11, 9, 8.
         joined(y, 0, 60, 6, 1 << 7 | 1 << 8 | 1 << 10 | 1 << 11 | 1 << 12 | 1 << 13);
     }
 
     private static void most() {
-        CrustMarket x = with();
+        CrustMarket x = Check.forged();
         Check.tell(x, 1, "left 10 when guests=4;left 10 when guests=9;left 9;");
         Check.due("21 guests", x.most(0, 1, 0), 4);
         Check.due("21 how much", x.most(0, 1, 1), 10);
@@ -101,24 +90,24 @@ public final class ThoughtsTest {
     }
 
     private static void stalls() {
-        CrustMarket x = with();
+        CrustMarket x = Check.forged();
         Check.due("24 none", x.stalls(1), 0);
         Check.due("24 room 0", x.stalls(0), -1);
         Check.due("24 room 100", x.stalls(100), -1);
-        CrustMarket y = with(50, -30, 40, 60, -20);
+        CrustMarket y = Check.forged(50, -30, 40, 60, -20);
         Check.due("24 by sizes", y.stalls(99), 3);
         Check.due("24 one too big", y.stalls(59), -1);
         Check.due("24 just", y.stalls(60), 4);
         Check.due("24 three", y.stalls(80), 3);
         Check.due("24 three of 70", y.stalls(70), 3);
-        Check.due("24 the first too big", with(50, 20).stalls(49), -1);
+        Check.due("24 the first too big", Check.forged(50, 20).stalls(49), -1);
     }
 
     private static void stallsOfMany() {
         // First fit by falling sizes takes three stalls of ten here; two do.
-        CrustMarket x = with(4, 4, 4, 3, 3, 2);
+        CrustMarket x = Check.forged(4, 4, 4, 3, 3, 2);
         Check.due("24 better than first fit", x.stalls(10), 2);
-        CrustMarket y = with(9, 9, 9, 9, 9, 9, 9, 9, 9, 9);
+        CrustMarket y = Check.forged(9, 9, 9, 9, 9, 9, 9, 9, 9, 9);
         Check.due("24 ten", y.stalls(9), 10);
         Check.due("24 five", y.stalls(18), 5);
         Check.due("24 all", y.stalls(90), 1);
@@ -127,7 +116,7 @@ public final class ThoughtsTest {
     }
 
     private static void crumbs() {
-        CrustMarket x = with();
+        CrustMarket x = Check.forged();
         Check.tell(x, 0, "kind 90 keeps 9;kind 80 keeps 9;kind 70 keeps 9;");
         Check.tell(x, 1, "left 10+day when guests<4;left guests-4;");
         Check.tell(x, 2, "on 9 feast 1 for 1;on 9 feast 2 for 2;on 9 feast 1 for 3;on 9 feast 1 for 4;on 9 feast 2 for 5;on 9 feast 0 for 14;");
@@ -150,7 +139,7 @@ public final class ThoughtsTest {
     }
 
     private static void cooks() {
-        CrustMarket x = with(30, -20, 10);
+        CrustMarket x = Check.forged(30, -20, 10);
         Check.due("29 no dishes", x.cooks(0), 0);
         Check.due("29 no dishes, set", x.cooks(1), 0);
         Check.tell(x, 4, "dish 10 0 40;dish 6 0 20 1 20;dish 4 0 20;dish 4 0 20;dish 99 0 41;dish 98 1 21;");
