@@ -246,9 +246,10 @@ public final class LawBoundsTest {
     // "left, edge of a feast: kind, whole, guests; day (size, age, edges 0)."
     private static void factsOfAFeast() {
         CrustMarket x = Check.market("kind 90 keeps 30;kind 80 keeps 30;",
-            "price size;left size+age+edges when guests=1;left kind when guests=2;left whole-9 when guests=3;left guests when guests=4;left day;edge size+age+edges when guests=1;edge kind+4 when guests=2;edge day;");
+            "price size;left size+age+edges when guests=1;left kind when guests=2;left whole-9 when guests=3;left guests when guests=4;left day;edge size+age+edges when guests=1;edge kind+4 when guests=2;edge day+2;");
         x.feast(1, 4);
         x.days(3);
+        Check.remain("14 none of it is 0", x, 0, 1, 4, 0, 2);
         Check.due("14 of a REMAIN ahead", x.remain(0, 5), 4);
         Check.due("16 size, age, edges are 0", x.left(1, 1, false), 0);
         Check.due("14 of a REMAIN ahead", x.remain(0, 5), 4);
@@ -261,7 +262,7 @@ public final class LawBoundsTest {
         Check.due("16 WHOLE of 1", x.left(1, 3, false), 71);
         Check.due("16 guests", x.left(1, 4, false), 4);
         Check.due("16 DAY", x.left(1, 20, false), 3);
-        Check.due("16 DAY by edge", x.left(1, 20, true), 3);
+        Check.due("16 DAY by edge", x.left(1, 20, true), 5);
     }
 
     // "price, spoil of a REMAIN: kind, whole: its KIND's; size; age: DAY less BORN; edges; day (guests 0)."

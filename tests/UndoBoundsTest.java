@@ -273,9 +273,14 @@ public final class UndoBoundsTest {
         x.limit(9);
         x.trade(-1, 0, 0, 0);
         x.trade(3, 4, 1, 1);
+        x.set(0, 99);
+        x.forge(0, 3);
         x.feast(0, 1);
+        x.set(1, 1000);
         x.days(3);
+        Check.due("9 one more fine", x.look(4), 2);
         x.image(false);
+        Check.due("37 FINES go back", x.look(4), 1);
         Check.due("37 nothing can be undone then", x.look(14), 0);
         CrustMarket twin = full();
         twin.state(twin.look(9));
