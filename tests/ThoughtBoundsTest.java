@@ -31,6 +31,9 @@ public final class ThoughtBoundsTest {
         waitsWhileItKeeps();
         waitsByTheAgeOfThen();
         waitsOfSeveral();
+        sizeForGuests();
+        goesBehindTheLastDay();
+        thoughtsWithoutRoom();
         Check.finish("ThoughtBoundsTest");
     }
 
@@ -490,5 +493,43 @@ public final class ThoughtBoundsTest {
         waited(x, 0, 29, 9);
         Check.tell(x, 1, "price 9 when age=30;price 8;");
         waited(x, 0, 0, 8);
+    }
+
+    // "MOST what 0 guests, 1 how much is left; HOLDS what 2 (of SIZE 1 .. 999)": only HOLDS has a SIZE
+    private static void sizeForGuests() {
+        CrustMarket x = Check.market("kind 50 keeps 30;", "left 20-guests;");
+        for (int size : new int[] {-1, 0, 1000, Integer.MAX_VALUE, Integer.MIN_VALUE}) {
+            Check.due("21 guests, whatever the SIZE " + size, x.most(0, size, 0), 1);
+            Check.due("21 how much, whatever the SIZE " + size, x.most(0, size, 1), 19);
+            Check.due("21 HOLDS for SIZE " + size, x.most(0, size, 2), -1);
+        }
+    }
+
+    // Only days() names DAY 9999 as a bound of its own, beside one that can't be.
+    private static void goesBehindTheLastDay() {
+        CrustMarket x = Check.market("kind 50 keeps 3;");
+        for (int i = 0; i < 166; i++) {
+            x.days(60);
+        }
+        x.days(39);
+        x.feast(0, 1);
+        Check.due("9 no DAY behind 9999", x.days(1), -1);
+        Check.due("19 in thought three", x.goes(3, 2), 1);
+        Check.due("19 in thought sixty", x.goes(60, 2), 0);
+        Check.due("19 DAY stays", x.look(1), 9999);
+    }
+
+    // What a FEAST would leave is asked of THE LAW, room or not.
+    private static void thoughtsWithoutRoom() {
+        CrustMarket x = Check.market("kind 50 keeps 30;", "", "on 9 feast 0 for 1;on 9 feast 0 for 2;");
+        for (int i = 0; i < 14; i++) {
+            x.feast(0, 9);
+        }
+        Check.due("4 no room", x.feast(0, 1), 0);
+        Check.due("16 left", x.left(0, 1, false), 45);
+        Check.due("21 how much", x.most(0, 1, 1), 45);
+        Check.due("28 the first line", x.crumbs(45, 0), 1);
+        Check.due("28 the second line", x.crumbs(40, 0), 2);
+        Check.due("28 neither leaves nothing", x.crumbs(0, 0), 0);
     }
 }
